@@ -151,9 +151,6 @@ public final class CoatedBridges {
         if (ago < 0 || what < 0 || what > 1) {
             return INVALID_ARGUMENT;
         }
-        if (ago >= state.complaintBook.length) {
-            return NOT_FOUND;
-        }
         return what == 0 ? state.complaintBook.dayAgo(ago) : state.complaintBook.complaintsAgo(ago);
     }
 
@@ -542,12 +539,13 @@ public final class CoatedBridges {
             length = MAX_BOOK - 1;
         }
 
+        // ago is 0 or more
         int dayAgo(int ago) {
-            return ago >= 0 && ago < length ? days[length - 1 - ago] : NOT_FOUND;
+            return ago < length ? days[length - 1 - ago] : NOT_FOUND;
         }
 
         int complaintsAgo(int ago) {
-            return ago >= 0 && ago < length ? complaints[length - 1 - ago] : NOT_FOUND;
+            return ago < length ? complaints[length - 1 - ago] : NOT_FOUND;
         }
     }
 
@@ -570,12 +568,9 @@ public final class CoatedBridges {
             return true;
         }
 
-        /** Tells whether an order of the right form stands at the position. */
+        /** Tells whether an order of the right form stands at the position, which is within the text. */
         boolean readOrder(int position) {
             at = position;
-            if (at < 0 || at >= length) {
-                return false;
-            }
             kind = characters[at];
             int wanted = numbersOf(kind);
             if (wanted == 0) {

@@ -27,15 +27,34 @@ public final class Promise02IslandTest {
 
     private static void newOneIsNotTheOneThatWasUndone() {
         CoatedBridges x = new CoatedBridges();
-        x.island(9);
-        x.days(9);
-        x.undo();
-        x.undo();
-        Check.due("count(1)", x.count(1), 1);
-        Check.due("island(3)", x.island(3), 1);
         int[] fresh = {0, 0, 3, 0, 0, 0, 0, Check.NOT_FOUND};
-        for (int what = 0; what < fresh.length; what++) {
-            Check.due("islandOf(1, " + what + ")", x.islandOf(1, what), fresh[what]);
+        for (int round = 0; round < 12; round++) {
+            Check.due("island(3)", x.island(3), 1);
+            for (int what = 0; what < fresh.length; what++) {
+                Check.due("islandOf(1, " + what + ")", x.islandOf(1, what), fresh[what]);
+            }
+            x.days(9);
+            x.set(3, 1);
+            x.days(1);
+            Check.due("islandOf(1, 5)", x.islandOf(1, 5), 1);
+            x.undo();
+            x.undo();
+            Check.due("islandOf(1, 1)", x.islandOf(1, 1), 9);
+            x.undo();
+            x.undo();
+            Check.due("count(1)", x.count(1), 1);
+        }
+        for (int round = 0; round < 12; round++) {
+            Check.due("island(3)", x.island(3), 1);
+            Check.due("islandOf(1, 1)", x.islandOf(1, 1), 0);
+            int many = round % 3 + 1;
+            for (int i = 1; i <= many; i++) {
+                x.days(7);
+                Check.due("islandOf(1, 1)", x.islandOf(1, 1), 7 * i);
+            }
+            for (int i = many; i >= 0; i--) {
+                Check.due("undo()", x.undo(), i);
+            }
         }
     }
 }

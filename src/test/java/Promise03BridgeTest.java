@@ -38,16 +38,20 @@ public final class Promise03BridgeTest {
     }
 
     private static void newOneIsNotTheOneThatWasUndone() {
-        CoatedBridges x = Check.withBridges(1, 9);
-        x.days(12);
-        x.send(0, 0);
-        x.days(1);
-        x.undo();
-        x.undo();
-        x.undo();
-        x.undo();
-        Check.due("count(2)", x.count(2), 0);
-        Check.due("bridge(1, 0, 3)", x.bridge(1, 0, 3), 0);
-        dueBridge(x, 0, 1, 0, 3);
+        CoatedBridges x = Check.withIslands(1);
+        x.days(5);
+        for (int round = 0; round < 12; round++) {
+            Check.due("bridge(1, 0, 9)", x.bridge(1, 0, 9), 0);
+            dueBridge(x, 0, 1, 0, 9);
+            x.days(12);
+            Check.due("bridgeOf(0, 4)", x.bridgeOf(0, 4), 2);
+            x.send(0, 0);
+            x.days(1);
+            Check.due("bridgeOf(0, 7)", x.bridgeOf(0, 7), 10);
+            for (int i = 3; i >= 0; i--) {
+                Check.due("undo()", x.undo(), i);
+            }
+            Check.due("count(2)", x.count(2), 0);
+        }
     }
 }

@@ -195,6 +195,16 @@ public final class Promise07DaysTest {
         Check.due("bridgeOf(2, 3)", x.bridgeOf(2, 3), 34);
         x.days(1);
         Check.due("count(5) when two crews are back", x.count(5), 4);
+        allFourGoOnOneDay();
+    }
+
+    private static void allFourGoOnOneDay() {
+        CoatedBridges x = Check.withBridges(6, 9);
+        x.set(0, 4);
+        x.set(6, 1);
+        x.set(7, 99);
+        x.days(1);
+        Check.due("count(5) with six to go to", x.count(5), 15);
     }
 
     private static void crewsGoBehindTheCoins() {

@@ -10,8 +10,18 @@ public final class Promise19MeanTest {
         Check.due("mean() of 1", x.mean(), 0x3F800000);
         x.days(1);
         Check.due("mean() of 0", x.mean(), 0);
+        everyCoatOfOne();
         everyMeanOfFourteen();
         Check.end();
+    }
+
+    /** The powers of 2 are among them. */
+    private static void everyCoatOfOne() {
+        CoatedBridges x = Check.withBridges(1, 1);
+        for (int coat = 100; coat >= 0; coat--) {
+            Check.due("mean() of " + coat, x.mean(), Float.floatToIntBits((float) coat));
+            x.days(1);
+        }
     }
 
     /** The bridges of other wears rust one by one, down to one coat of 1 among fourteen. */

@@ -22,6 +22,7 @@ public final class Promise20CountTest {
         });
         accountsAddUp(x);
         x.recall(1);
+        accountsAddUp(x);
         dueCounts(x, new int[] {17, 4, 3, 7, 6, 0, 1, 6, 2, 2, 2});
         x.set(0, 0);
         Check.due("count(10)", x.count(10), 0);
@@ -55,6 +56,7 @@ public final class Promise20CountTest {
             complaints += x.islandOf(i, 3);
         }
         Check.due("coins for ferries", x.count(15), ferries);
+        Check.due("coins for ferries", x.count(15), 160);
         Check.due("complaints", x.count(11), complaints);
     }
 
