@@ -63,7 +63,6 @@ public final class CoatedBridges {
     private int historyLength;
 
     private final Text text = new Text();
-    private int ordersDone;
     private int faultPosition;
     private int faultReason;
     private int faultCause;
@@ -288,7 +287,7 @@ public final class CoatedBridges {
         if (what < 0 || what > 2) {
             return INVALID_ARGUMENT;
         }
-        if (obeyText(startTrial())) {
+        if (obeyText(startTrial()) >= 0) {
             return NOT_FOUND;
         }
         switch (what) {
@@ -299,7 +298,7 @@ public final class CoatedBridges {
     }
 
     public int play() {
-        return settle(obeyText(startTrial()) ? ordersDone : NOT_POSSIBLE);
+        return settle(obeyText(startTrial()));
     }
 
     // ---- changes
@@ -335,22 +334,24 @@ public final class CoatedBridges {
         historyLength = MAX_HISTORY - 1;
     }
 
-    /** Does the orders of the text one by one; false if there is a fault, which is then noted. */
-    private boolean obeyText(State stage) {
+    /** Does the orders of the text one by one and returns how many; NOT_POSSIBLE if there is a fault, which is noted. */
+    private int obeyText(State stage) {
         int position = 0;
-        for (ordersDone = 0; ordersDone < MAX_TEXT && position < text.length; ordersDone++) {
+        int orders = 0;
+        while (orders < MAX_TEXT && position < text.length) {
             if (!text.readOrder(position)) {
                 noteFault(position, NOT_OF_THE_FORM, text.at - position);
-                return false;
+                return NOT_POSSIBLE;
             }
             int answer = obeyOrder(stage);
             if (answer < 0) {
                 noteFault(position, CALL_HAS_ERROR, answer);
-                return false;
+                return NOT_POSSIBLE;
             }
             position = text.at;
+            orders++;
         }
-        return true;
+        return orders;
     }
 
     private void noteFault(int position, int reason, int cause) {

@@ -1,7 +1,10 @@
 public final class Promise07DaysTest {
     public static void main(String[] args) {
-        wrongArguments();
+        manyAtTheEnds();
+        manyOutOfRange();
+        complaintsInThem();
         theLastDay();
+        Check.sentence("A day");
         paintAheadOfWear();
         paintIsPaidByTheNumbers();
         coatStopsAtItsEnds();
@@ -13,34 +16,78 @@ public final class Promise07DaysTest {
         Check.end();
     }
 
-    private static void wrongArguments() {
+    private static void manyAtTheEnds() {
+        Check.sentence("many: 1 to 99");
         CoatedBridges x = new CoatedBridges();
-        int[] outOfRange = {0, 100, -1, Integer.MIN_VALUE, Integer.MAX_VALUE};
-        for (int many : outOfRange) {
-            Check.due("days(" + many + ")", x.days(many), Check.INVALID);
-        }
-        Check.due("count(0)", x.count(0), 0);
-        Check.due("count(18)", x.count(18), 0);
+        Check.due("days(1)", x.days(1), 0);
+        Check.due("count(0)", x.count(0), 1);
         Check.due("days(99)", x.days(99), 0);
-        Check.due("count(0)", x.count(0), 99);
-        Check.due("count(13)", x.count(13), 200 + 99 * 12);
-        Check.due("count(18)", x.count(18), 1);
+        Check.due("count(0)", x.count(0), 100);
+        Check.due("days(98)", x.days(98), 0);
+        Check.due("count(0)", x.count(0), 198);
+        Check.due("count(13)", x.count(13), 200 + 198 * 12);
+        Check.due("count(18)", x.count(18), 3);
+    }
+
+    private static void manyOutOfRange() {
+        Check.sentence("INVALID_ARGUMENT if many is out of range");
+        for (int many : new int[] {0, 100, -1, Integer.MIN_VALUE, Integer.MAX_VALUE}) {
+            Check.dueRefused("days(" + many + ")", Check.INVALID, x -> { }, x -> x.days(many));
+            Check.dueRefused("days(" + many + ") later", Check.INVALID, Check::busy, x -> x.days(many));
+        }
+    }
+
+    private static void complaintsInThem() {
+        Check.sentence("Returns how many complaints there are in them");
+        CoatedBridges x = Check.withIslands(7);
+        Check.due("days(3) that are borne", x.days(3), 0);
+        Check.due("days(1)", x.days(1), 7);
+        Check.due("days(99)", x.days(99), 99 * 7);
+        Check.due("count(11)", x.count(11), 100 * 7);
+    }
+
+    /** An island with a bridge and one without, on the day 9900: 100 times 99 days. */
+    private static void late(CoatedBridges x) {
+        Check.addBridges(x, 1, 9);
+        Check.write(x, "d99;d99;d99;d99;d99;d99;d99;d99;d99;d99;");
+        for (int i = 1; i <= 10; i++) {
+            Check.due("play()", x.play(), 10);
+        }
+        Check.due("count(0)", x.count(0), 9900);
     }
 
     private static void theLastDay() {
-        CoatedBridges x = new CoatedBridges();
-        for (int i = 0; i < 100; i++) {
-            x.days(99);
-        }
-        Check.due("days(98)", x.days(98), 0);
-        Check.due("days(2) to the day 10000", x.days(2), Check.LIMIT);
-        Check.due("days(100) to the day 10098", x.days(100), Check.INVALID);
-        Check.due("count(0)", x.count(0), 9998);
-        Check.due("days(1)", x.days(1), 0);
+        Check.sentence("LIMIT_REACHED if now would be above 9999");
+        CoatedBridges x = Check.after(Promise07DaysTest::late);
+        Check.due("days(99) to the day 9999", x.days(99), 99);
         Check.due("count(0)", x.count(0), 9999);
-        Check.due("days(1)", x.days(1), Check.LIMIT);
-        Check.due("ifDays(99)", x.ifDays(99), 0);
+        Check.due("days(1) to the day 10000", x.days(1), Check.LIMIT);
         Check.due("count(16)", x.count(16), 9999 * 12);
+
+        CoatedBridges y = Check.after(Promise07DaysTest::late);
+        Check.due("days(98) to the day 9998", y.days(98), 98);
+        Check.due("days(2) to the day 10000", y.days(2), Check.LIMIT);
+        Check.due("count(0)", y.count(0), 9998);
+        Check.due("days(1) to the day 9999", y.days(1), 1);
+        Check.due("book(0, 0)", y.book(0, 0), 9998);
+
+        Check.Way last = z -> {
+            late(z);
+            z.days(50);
+            z.days(49);
+        };
+        for (int many : new int[] {1, 2, 99}) {
+            Check.dueRefused("days(" + many + ") of the day 9999", Check.LIMIT, last, z -> z.days(many));
+        }
+        Check.dueRefused("days(99) of the day 9901", Check.LIMIT, z -> {
+            late(z);
+            z.days(1);
+        }, z -> z.days(99));
+
+        Check.sentence("INVALID_ARGUMENT is returned rather than .. LIMIT_REACHED");
+        for (int many : new int[] {0, 100, Integer.MAX_VALUE}) {
+            Check.dueRefused("days(" + many + ") of the day 9999", Check.INVALID, last, z -> z.days(many));
+        }
     }
 
     private static void paintAheadOfWear() {

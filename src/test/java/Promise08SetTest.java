@@ -1,32 +1,81 @@
 public final class Promise08SetTest {
+    private static final int[] FIRST = {1, 30, 10, 0, 3, 12, 0, 40};
+    private static final int[] LOWEST = {0, 1, 0, 0, 0, 0, 0, 0};
+    private static final int[] HIGHEST = {4, 100, 99, 1, 30, 99, 1, 99};
+
     public static void main(String[] args) {
+        firstValues();
+        valuesAtTheEnds();
+        valuesOutOfRange();
+        whatOutOfRange();
+        whatItChanges();
+        Check.end();
+    }
+
+    private static void firstValues() {
+        Check.sentence("The settings are (in parentheses: range; first value)");
         CoatedBridges x = new CoatedBridges();
-        int[] first = {1, 30, 10, 0, 3, 12, 0, 40};
-        int[] lowest = {0, 1, 0, 0, 0, 0, 0, 0};
-        int[] highest = {4, 100, 99, 1, 30, 99, 1, 99};
+        for (int what = 0; what < 8; what++) {
+            Check.due("count(" + (20 + what) + ")", x.count(20 + what), FIRST[what]);
+            Check.due("set(" + what + ", ..) to the first value", x.set(what, FIRST[what]), FIRST[what]);
+        }
+        CoatedBridges changed = new CoatedBridges();
+        for (int what = 0; what < 8; what++) {
+            changed.set(what, HIGHEST[what]);
+        }
+        CoatedBridges other = new CoatedBridges();
+        for (int what = 0; what < 8; what++) {
+            Check.due("count(" + (20 + what) + ") of another object", other.count(20 + what), FIRST[what]);
+        }
+    }
+
+    private static void valuesAtTheEnds() {
+        Check.sentence("value: a value in its range; returns what it was");
+        CoatedBridges x = new CoatedBridges();
         for (int what = 0; what < 8; what++) {
             String call = "set(" + what + ", ..)";
-            Check.due(call + " below", x.set(what, lowest[what] - 1), Check.INVALID);
-            Check.due(call + " above", x.set(what, highest[what] + 1), Check.INVALID);
-            Check.due(call + " MIN", x.set(what, Integer.MIN_VALUE), Check.INVALID);
-            Check.due(call + " MAX", x.set(what, Integer.MAX_VALUE), Check.INVALID);
-            Check.due("count of the setting " + what, x.count(20 + what), first[what]);
-            Check.due(call + " lowest", x.set(what, lowest[what]), first[what]);
-            Check.due(call + " highest", x.set(what, highest[what]), lowest[what]);
-            Check.due(call + " highest again", x.set(what, highest[what]), highest[what]);
-            Check.due("count of the setting " + what, x.count(20 + what), highest[what]);
+            Check.due(call + " to the lowest", x.set(what, LOWEST[what]), FIRST[what]);
+            Check.due("count(" + (20 + what) + ")", x.count(20 + what), LOWEST[what]);
+            Check.due(call + " to the highest", x.set(what, HIGHEST[what]), LOWEST[what]);
+            Check.due("count(" + (20 + what) + ")", x.count(20 + what), HIGHEST[what]);
+            Check.due(call + " to the highest again", x.set(what, HIGHEST[what]), HIGHEST[what]);
         }
-        Check.due("set(-1, 0)", x.set(-1, 0), Check.INVALID);
-        Check.due("set(8, 0)", x.set(8, 0), Check.INVALID);
-        Check.due("set(MAX, 0)", x.set(Integer.MAX_VALUE, 0), Check.INVALID);
-        Check.due("set(MIN, 0)", x.set(Integer.MIN_VALUE, 0), Check.INVALID);
+        for (int what = 0; what < 8; what++) {
+            Check.due("count(" + (20 + what) + ") behind the others", x.count(20 + what), HIGHEST[what]);
+        }
+    }
 
-        CoatedBridges y = new CoatedBridges();
-        Check.due("count(20) of another object", y.count(20), 1);
-        y.set(0, 9);
-        Check.due("count(18)", y.count(18), 0);
-        y.set(0, 1);
-        Check.due("count(18) of a setting that stays", y.count(18), 1);
-        Check.end();
+    private static void valuesOutOfRange() {
+        Check.sentence("INVALID_ARGUMENT if an argument is out of range");
+        for (int i = 0; i < 8; i++) {
+            int what = i;
+            for (int value : new int[] {LOWEST[what] - 1, HIGHEST[what] + 1, Integer.MIN_VALUE, Integer.MAX_VALUE}) {
+                Check.dueRefused("set(" + what + ", " + value + ")", Check.INVALID, Check::busy,
+                    x -> x.set(what, value));
+            }
+        }
+    }
+
+    private static void whatOutOfRange() {
+        Check.sentence("what: 0 to 7");
+        for (int what : new int[] {-1, 8, Integer.MIN_VALUE, Integer.MAX_VALUE}) {
+            for (int value : new int[] {0, 1}) {
+                Check.dueRefused("set(" + what + ", " + value + ")", Check.INVALID, Check::busy,
+                    x -> x.set(what, value));
+            }
+        }
+    }
+
+    private static void whatItChanges() {
+        Check.sentence("The changes are the calls of .. set .. that return no error");
+        CoatedBridges x = new CoatedBridges();
+        x.set(0, 9);
+        Check.due("count(18) of an error", x.count(18), 0);
+        x.set(0, 1);
+        Check.due("count(18) of a setting that stays", x.count(18), 1);
+        x.set(1, 100);
+        Check.due("count(18)", x.count(18), 2);
+        x.undo();
+        Check.due("count(21)", x.count(21), 30);
     }
 }
