@@ -22,6 +22,7 @@ public final class TermsDayTest {
         theBookOfDays();
         crewsGoOrNot();
         asLongAsBestTells();
+        noneGoesWithFewerCrews();
         crewsGoLast();
         Check.end();
     }
@@ -444,6 +445,26 @@ public final class TermsDayTest {
         }
         CoatedBridges one = at40(1, 4);
         Check.due("count(5) of one", one.count(5), 0);
+    }
+
+    private static void noneGoesWithFewerCrews() {
+        Check.sentence("With fewer crews those that are on bridges stay until they leave.");
+        CoatedBridges x = Check.withBridges(4, 6);
+        x.set(1, 1);
+        x.set(0, 2);
+        x.days(10);
+        x.send(0, 0);
+        x.send(1, 0);
+        x.set(0, 1);
+        x.set(6, 1);
+        x.days(1);
+        Check.due("count(5) with two out and one crew", x.count(5), 3);
+        x.recall(0);
+        x.days(1);
+        Check.due("count(5) with one out and one crew", x.count(5), 2);
+        x.recall(1);
+        x.days(1);
+        Check.due("count(5) with none out and one crew", x.count(5), 4);
     }
 
     private static void crewsGoLast() {
