@@ -143,6 +143,7 @@ public final class Promise16PaintedInTest {
         Check.due("bridgeOf(0, 4)", x.bridgeOf(0, 4), 1);
         Check.due("paintedIn(0)", x.paintedIn(0), 1);
     }
+
     private static void behindTheLastDay() {
         Check.sentence("Tells in how many days a painted bridge is open, if nothing else is done.");
         CoatedBridges x = Check.withBridges(2, 9);

@@ -125,6 +125,7 @@ public final class Promise17AloneInTest {
         Check.due("paintedIn(1)", x.paintedIn(1), 100);
         Check.due("aloneIn() of 200 days", x.aloneIn(), 200);
     }
+
     private static void behindTheLastDay() {
         Check.sentence("Tells in how many days the first island that is reached now is alone");
         CoatedBridges x = Check.withIslands(1);
